@@ -80,6 +80,7 @@ public final class CallingLooms {
         if (loom.stack.size == 0) return NOT_POSSIBLE;
         history.keep(loom);
         loom.stack.passOver();
+        loom.stack.leaveEnds();
         return loom.stack.size;
     }
 
@@ -359,27 +360,27 @@ public final class CallingLooms {
 
         /** The code of the character at a place, 0 behind the end. */
         int signAt(int place) {
-            return inRange(place, length) ? signs[place] : 0;
+            return place >= 0 && place < length ? signs[place] : 0;
         }
 
         /** The count of a "w" or an "x", 1 for other steps. */
         int timesAt(int place) {
-            return inRange(place, length) ? times[place] : 0;
+            return place >= 0 && place < length ? times[place] : 0;
         }
 
         /** The colour of a "c", or the card of a "k". */
         int digitAt(int place) {
-            return inRange(place, length) ? digits[place] : 0;
+            return place >= 0 && place < length ? digits[place] : 0;
         }
 
         /** Where the part of a step begins: behind its bracket. */
         int insideOf(int place) {
-            return inRange(place, length) ? insides[place] : length;
+            return place >= 0 && place < length ? insides[place] : length;
         }
 
         /** The place behind a whole step with its part. */
         int behind(int place) {
-            return inRange(place, length) ? behinds[place] : length;
+            return place >= 0 && place < length ? behinds[place] : length;
         }
     }
 
@@ -556,25 +557,21 @@ public final class CallingLooms {
             texts[size] = text;
             colours[size] = colour;
             parts[size] = 0;
+            places[size * LEVELS] = 0;
+            left[size * LEVELS] = text.timesAt(0);
             size++;
-            arriveAt(0);
         }
 
         void dye(int colour) {
             if (size > 0) colours[size - 1] = colour;
         }
 
-        /** One pick of a "w", or a whole other step. */
+        /** One pick of a "w", or a whole other step; leaveEnds() is due then. */
         void passOver() {
             if (size == 0) return;
             int spot = spotOf(size - 1);
-            boolean stays = stepLetter() == 'w' && left[spot] > 1;
-            if (stays) {
-                left[spot]--;
-            } else {
-                goBehind();
-                leaveEnds();
-            }
+            if (stepLetter() == 'w' && left[spot] > 1) left[spot]--;
+            else arriveAt(placeBehind());
         }
 
         void beginPart() {
@@ -586,27 +583,28 @@ public final class CallingLooms {
         }
 
         /** Leaves the parts and cards at whose end the loom is; each round leaves one of them. */
-        private void leaveEnds() {
+        void leaveEnds() {
             for (int i = 0; i < ENDS_MOST && size > 0; i++) {
                 int sign = stepLetter();
                 if (sign == ')' && parts[size - 1] > 0) {
                     parts[size - 1]--;
                     // An "x" with times left is the next step once more.
-                    if (left[spotOf(size - 1)] <= 0) goBehind();
+                    if (left[spotOf(size - 1)] <= 0) arriveAt(placeBehind());
                 } else if (sign == 0) {
                     size--;
-                    goBehind();
+                    arriveAt(placeBehind());
                 } else {
                     return;
                 }
             }
         }
 
-        private void goBehind() {
-            if (size > 0) arriveAt(texts[size - 1].behind(places[spotOf(size - 1)]));
+        private int placeBehind() {
+            return size > 0 ? texts[size - 1].behind(places[spotOf(size - 1)]) : 0;
         }
 
         private void arriveAt(int place) {
+            if (size == 0) return;
             int spot = spotOf(size - 1);
             places[spot] = place;
             left[spot] = texts[size - 1].timesAt(place);
@@ -690,11 +688,10 @@ public final class CallingLooms {
                 int hindrance = hindranceAfter(steps);
                 if (hindrance != ALL_WOVEN) return hindrance;
                 int letter = stack.stepLetter();
-                if (letter == 'w') {
-                    weavePick();
-                    return ALL_WOVEN;
-                }
-                doStep(letter);
+                if (letter == 'w') weavePick();
+                else doStep(letter);
+                stack.leaveEnds();
+                if (letter == 'w') return ALL_WOVEN;
             }
             return TOO_MANY_STEPS;
         }

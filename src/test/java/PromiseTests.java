@@ -215,6 +215,13 @@ public final class PromiseTests {
         due("undone", loom.count(13), 5);
         loom.weave(3);
         due("begin(2) when it is over", loom.begin(2), 0);
+        Checks.give(loom, 3, "wx2(w2)");
+        loom.begin(3);
+        loom.weave(2);
+        due("in a part", loom.stack(0, 3), 1);
+        due("begin(3)", loom.begin(3), 1);
+        due("in no part", loom.stack(0, 3), 0);
+        due("all its picks", loom.weave(9), 5);
     }
 
     private static void testWeave() {
@@ -884,6 +891,10 @@ public final class PromiseTests {
         loom.begin(2);
         loom.weave(99);
         dueCloth(loom, "55113113");
+        // The second time begins with the colour that the first one ends with, whatever stands behind the part.
+        Checks.give(loom, 3, "x2(wl(x2(c1)c2))c5w");
+        int[] last = {1, 0, 1, 0, 0, 1};
+        for (int colour = 0; colour < 6; colour++) due("picks(3, " + colour + ")", loom.picks(3, colour), last[colour]);
     }
 
     private static void testPicksAtTheMost() {
@@ -1116,6 +1127,12 @@ public final class PromiseTests {
         due("too early", loom.fault(), 1);
         loom.put('1');
         due("then whole", loom.fault(), NONE);
+        loom.wipe();
+        Checks.type(loom, "x2(x2(w");
+        due("brackets that stay open", loom.fault(), 7);
+        loom.wipe();
+        Checks.type(loom, "x2(x2(x2(w)))");
+        due("do not count for the next text", loom.fault(), NONE);
         due("not a change", loom.count(13), 0);
     }
 
@@ -1147,55 +1164,66 @@ public final class PromiseTests {
 
     private static void testUndoTakesAllBack() {
         promise = "27 undo, all of the state";
+        String[] changes = {"weave", "skip", "tie", "cut", "set", "begin", "blank", "card"};
+        for (int change = 0; change < changes.length; change++) {
+            CallingLooms loom = midway();
+            int[] before = readOut(loom);
+            makeChange(loom, change);
+            loom.undo();
+            dueSame("undo of " + changes[change], readOut(loom), before);
+            due("goes on as before", loom.weave(9), 1);
+            due("reason", loom.count(6), 5);
+        }
+        CallingLooms loom = midway();
+        due("calls", loom.count(5), 1);
+        loom.begin(0);
+        loom.weave(2);
+        due("calls", loom.count(5), 2);
+        loom.undo();
+        due("calls after undo", loom.count(5), 1);
+        due("of(1, 4) after undo", loom.of(1, 4), 1);
+    }
+
+    private static CallingLooms midway() {
         CallingLooms loom = begun("wk1w");
         Checks.give(loom, 1, "c2x2(w)k3");
         loom.weave(2);
-        int[] before = readOut(loom);
-        loom.weave(9);
-        loom.undo();
-        dueSame("weave", readOut(loom), before);
-        loom.skip();
-        loom.undo();
-        dueSame("skip", readOut(loom), before);
-        loom.tie(2, 9);
-        loom.undo();
-        dueSame("tie", readOut(loom), before);
-        loom.cut();
-        loom.undo();
-        dueSame("cut", readOut(loom), before);
-        loom.set(2, 9);
-        loom.undo();
-        dueSame("set", readOut(loom), before);
-        loom.begin(1);
-        loom.undo();
-        dueSame("begin", readOut(loom), before);
-        loom.blank(1);
-        loom.undo();
-        dueSame("blank", readOut(loom), before);
-        due("goes on as before", loom.weave(9), 1);
-        due("reason", loom.count(6), 5);
+        return loom;
     }
 
-    /** All numbers that a state has, without the pad and the history. */
+    private static void makeChange(CallingLooms loom, int change) {
+        switch (change) {
+            case 0: loom.weave(9); break;
+            case 1: loom.skip(); break;
+            case 2: loom.tie(2, 9); break;
+            case 3: loom.cut(); break;
+            case 4: loom.set(2, 9); break;
+            case 5: loom.begin(1); break;
+            case 6: loom.blank(1); break;
+            default: Checks.give(loom, 3, "w");
+        }
+    }
+
+    /** The numbers that a state of these tests has, without the pad and the history; few calls, as 512 are the most. */
     private static int[] readOut(CallingLooms loom) {
-        int[] row = new int[12 + 70 + 20 + 36 + 20];
+        int[] row = new int[12 + 28 + 12 + 24 + 8];
         int next = 0;
         for (int what = 0; what < 12; what++) row[next++] = loom.count(what);
-        for (int card = 0; card < 10; card++) {
+        for (int card = 0; card < 4; card++) {
             for (int what = 0; what < 7; what++) row[next++] = loom.of(card, what);
         }
-        for (int rank = 0; rank < 5; rank++) {
+        for (int rank = 0; rank < 3; rank++) {
             for (int what = 0; what < 4; what++) row[next++] = loom.stack(rank, what);
         }
-        for (int colour = 0; colour < 6; colour++) {
+        for (int colour = 0; colour < 4; colour++) {
             for (int what = 0; what < 6; what++) row[next++] = loom.thread(colour, what);
         }
-        for (int pick = 0; pick < 20; pick++) row[next++] = loom.pick(pick);
+        for (int pick = 0; pick < 8; pick++) row[next++] = loom.pick(pick);
         return row;
     }
 
     private static void dueSame(String call, int[] got, int[] want) {
-        for (int i = 0; i < want.length; i++) due("number " + i + " behind undo of " + call, got[i], want[i]);
+        for (int i = 0; i < want.length; i++) due("number " + i + " behind " + call, got[i], want[i]);
     }
 
     private static void testHistoryIsShort() {
