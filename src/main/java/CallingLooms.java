@@ -386,7 +386,8 @@ public final class CallingLooms {
 
     /** Reads a pad from left to right, and keeps what a card needs of it in rows that are used again. */
     private static final class TextReader {
-        private static final int FIRST_STEP = 0, MORE = 1, MORE_OR_COUNT = 2, COUNT = 3, COLOUR = 4, DIGIT = 5, BRACKET = 6;
+        private static final int FIRST_STEP = 0, MORE = 1, MORE_OR_COUNT = 2, COUNT = 3, COLOUR = 4, DIGIT = 5,
+                BRACKET = 6;
 
         final char[] signs = new char[PAD_MOST];
         final int[] times = new int[PAD_MOST];
